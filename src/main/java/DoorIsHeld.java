@@ -74,13 +74,11 @@ public final class DoorIsHeld {
     private int inRow = 0;
     private final int[] refusals = new int[6];
 
-    /** Nobody comes. */
     public DoorIsHeld() {
     }
 
-    // ---- what is told ----
+    // ---- what is told (promises 1 to 7) ----
 
-    /** A letter comes: how many there are. */
     public int letter(int c) {
         if (c < 0) {
             return refuse(BELOW);
@@ -92,7 +90,6 @@ public final class DoorIsHeld {
         return letters.count;
     }
 
-    /** The letters become a way: how many statements, or the fault. */
     public int way() {
         int answer = letters.findFault(now);
         if (answer == 0) {
@@ -102,7 +99,6 @@ public final class DoorIsHeld {
         return answer;
     }
 
-    /** What is told of a walker. */
     public int walker(int walker, int what) {
         if (!now.has(walker)) {
             return refuse(NOBODY);
@@ -113,7 +109,6 @@ public final class DoorIsHeld {
         return what == YARDS_HELD_FOR ? now.yardsHeldFor(walker) : now.of(walker, what);
     }
 
-    /** A number of the door, or how far, becomes v: what it was. */
     public int set(int what, int v) {
         if (what < SHUTS || what > FAR) {
             return refuse(OTHER);
@@ -127,12 +122,10 @@ public final class DoorIsHeld {
         return now.change(what, v);
     }
 
-    /** The custom becomes v: what it was. */
     public int custom(int v) {
         return isCustom(v) ? now.change(CUSTOM, v) : refuse(OTHER);
     }
 
-    /** Up to how many yards one walker would hold it for another one. */
     public int far(int one, int next, int held) {
         if (!now.has(one) || !now.has(next) || one == next) {
             return refuse(NOBODY);
@@ -143,14 +136,12 @@ public final class DoorIsHeld {
         return now.holdsUpTo(one, next, held == 1);
     }
 
-    // ---- how it goes ----
+    // ---- how it goes (8 to 21) ----
 
-    /** From which second on he is at the door. */
     public int there(int walker) {
         return now.has(walker) ? now.thereFrom(walker) : refuse(NOBODY);
     }
 
-    /** The i-th who is through. */
     public int order(int i) {
         if (i < 0) {
             return refuse(BELOW);
@@ -162,54 +153,44 @@ public final class DoorIsHeld {
         return at(going.order, i);
     }
 
-    /** When he comes. */
     public int comes(int walker) {
         return answerOf(going.comes, walker);
     }
 
-    /** When he is through. */
     public int through(int walker) {
         return answerOf(going.through, walker);
     }
 
-    /** How long he opens. */
     public int opens(int walker) {
         return answerOf(going.opens, walker);
     }
 
-    /** How long he stands. */
     public int stands(int walker) {
         return answerOf(going.stands, walker);
     }
 
-    /** Who held it for him. */
     public int by(int walker) {
         return answerOf(going.by, walker);
     }
 
-    /** How many seconds he has run. */
     public int runs(int walker) {
         return answerOf(going.runs, walker);
     }
 
-    /** The loss of one walker, or of all (-1). */
     public int loss(int walker) {
         return walker == -1 ? allLoss(now) : answerOf(going.loss, walker);
     }
 
-    /** For how many it is held. */
     public int holds() {
         going.run(now);
         return going.countHeldFor();
     }
 
-    /** The longest that one stands. */
     public int longest() {
         going.run(now);
         return going.longestStand();
     }
 
-    /** When the first who was through is gone. */
     public int away() {
         if (now.walkers == 0) {
             return NONE;
@@ -218,21 +199,18 @@ public final class DoorIsHeld {
         return going.goneAt(at(going.order, 0));
     }
 
-    /** In how many seconds the door stands open. */
     public int open() {
         going.run(now);
         return going.openSeconds(now.door(SHUTS));
     }
 
-    /** What goes out of warmth. */
     public int coals() {
         going.run(now);
         return going.openSeconds(now.door(SHUTS)) * now.door(WARMTH);
     }
 
-    // ---- in mind ----
+    // ---- in mind (22 to 29) ----
 
-    /** The loss by another custom and how far. */
     public int byOther(int custom, int far) {
         if (!isCustom(custom)) {
             return refuse(OTHER);
@@ -249,17 +227,14 @@ public final class DoorIsHeld {
         return allLoss(mind);
     }
 
-    /** How far off one should hold it. */
     public int bestFar() {
         return leastLossOver(FAR, MOST_FAR);
     }
 
-    /** Which custom is best. */
     public int bestCustom() {
         return leastLossOver(CUSTOM, MOST_CUSTOM);
     }
 
-    /** In how many seconds the door should shut. */
     public int bestShuts() {
         mind.become(now);
         int best = 1;
@@ -275,7 +250,6 @@ public final class DoorIsHeld {
         return best;
     }
 
-    /** The walkers whose loss is greater than by the custom never (bits). */
     public int worse() {
         runByNever();
         for (int walker = 0; walker < now.walkers; walker++) {
@@ -291,7 +265,6 @@ public final class DoorIsHeld {
         return bits;
     }
 
-    /** The walkers without a card who opened 0 (bits). */
     public int followed() {
         going.run(now);
         int bits = 0;
@@ -303,13 +276,11 @@ public final class DoorIsHeld {
         return bits;
     }
 
-    /** What a porter would save. */
     public int porter() {
         runByNever();
         return going.lossOfAll();
     }
 
-    /** The loss, if a walker did not come. */
     public int alone(int walker) {
         if (!now.has(walker)) {
             return refuse(NOBODY);
@@ -319,9 +290,8 @@ public final class DoorIsHeld {
         return allLoss(mind);
     }
 
-    // ---- films, seeds, the row ----
+    // ---- films, seeds, the row (30 to 35) ----
 
-    /** A film more: how many. */
     public int film(int yards, int looks, int bags, int held) {
         int refusal = refusalOfFilm(yards, bags, isBit(looks) && isBit(held));
         if (refusal != 0) {
@@ -331,7 +301,6 @@ public final class DoorIsHeld {
         return films.count;
     }
 
-    /** A film more by the custom as it is: whether it was held. */
     public int told(int yards, int looks, int bags) {
         int refusal = refusalOfFilm(yards, bags, isBit(looks));
         if (refusal != 0) {
@@ -345,7 +314,6 @@ public final class DoorIsHeld {
         return held;
     }
 
-    /** By which fars all films would be so: how many, the least, the greatest. */
     public int fitting(int custom, int what) {
         if (!isFilmCustom(custom) || what < 0 || what > 2) {
             return refuse(OTHER);
@@ -366,7 +334,6 @@ public final class DoorIsHeld {
         return what == 1 ? least : greatest;
     }
 
-    /** For how many it is held, all together, when looks are drawn n times. */
     public int seeds(int n, int z) {
         if (n < 1) {
             return refuse(BELOW);
@@ -374,6 +341,7 @@ public final class DoorIsHeld {
         if (n > MOST_SEEDS) {
             return refuse(ROOM);
         }
+        // In mind alone: the looks that were told stay as they are.
         mind.become(now);
         int seed = z;
         int held = 0;
@@ -388,7 +356,6 @@ public final class DoorIsHeld {
         return held;
     }
 
-    /** A number more of the row: how many. */
     public int row(int v) {
         if (v < 0) {
             return refuse(BELOW);
@@ -401,7 +368,6 @@ public final class DoorIsHeld {
         return inRow;
     }
 
-    /** The first place at which the row is not the order of those who are through. */
     public int judge() {
         going.run(now);
         int length = inRow;
@@ -415,9 +381,8 @@ public final class DoorIsHeld {
         return length == now.walkers ? NONE : both;
     }
 
-    // ---- the image, the counts ----
+    // ---- the image, the counts (36 to 38) ----
 
-    /** The image is taken: how many walkers. */
     public int image() {
         imageOfTold.become(now);
         imageOfFilms.become(films);
@@ -425,7 +390,6 @@ public final class DoorIsHeld {
         return now.walkers;
     }
 
-    /** On from the image: how many walkers. */
     public int on() {
         if (!imageTaken) {
             return refuse(STATE);
@@ -435,7 +399,6 @@ public final class DoorIsHeld {
         return now.walkers;
     }
 
-    /** How many of what there are. */
     public int count(int what) {
         if (what >= 11 && what <= 16) {
             return at(refusals, what - 11);
@@ -726,22 +689,24 @@ public final class DoorIsHeld {
         private final int[] by = new int[MOST_WALKERS];
         private final int[] runs = new int[MOST_WALKERS];
         private final int[] loss = new int[MOST_WALKERS];
+        private final int[] thereFrom = new int[MOST_WALKERS];
         private final int[] passed = new int[MOST_WALKERS];
         private int walkers = 0;
 
         void run(Told told) {
             walkers = told.walkers;
             for (int walker = 0; walker < walkers; walker++) {
+                put(thereFrom, walker, told.thereFrom(walker));
                 put(passed, walker, 0);
             }
             int ahead = NONE;
-            int next = findNext(told);
+            int next = findNext();
             for (int i = 0; i < walkers; i++) {
                 int one = next;
                 comeThrough(told, ahead, one);
                 put(order, i, one);
                 put(passed, one, 1);
-                next = findNext(told);
+                next = findNext();
                 int seconds = next < 0 ? 0 : secondsHeldFor(told, one, next);
                 put(stands, one, seconds);
                 put(loss, one, told.of(one, WORTH) * (at(opens, one) + seconds) + at(runs, one));
@@ -750,16 +715,14 @@ public final class DoorIsHeld {
         }
 
         /** Of those who are not through he who is there first; NONE if all are. */
-        private int findNext(Told told) {
+        private int findNext() {
             int next = NONE;
             int first = 0;
             for (int walker = 0; walker < walkers; walker++) {
-                if (at(passed, walker) == 0) {
-                    int there = told.thereFrom(walker);
-                    if (next < 0 || there < first) {
-                        next = walker;
-                        first = there;
-                    }
+                boolean isFirst = next < 0 || at(thereFrom, walker) < first;
+                if (at(passed, walker) == 0 && isFirst) {
+                    next = walker;
+                    first = at(thereFrom, walker);
                 }
             }
             return next;
@@ -769,7 +732,7 @@ public final class DoorIsHeld {
             int gone = ahead < 0 ? 0 : goneAt(ahead);
             // Whoever stands, stands for the one who comes next: nobody else can be held for.
             boolean held = ahead >= 0 && at(stands, ahead) > 0;
-            int coming = held ? gone : Math.max(told.thereFrom(one), gone);
+            int coming = held ? gone : Math.max(at(thereFrom, one), gone);
             boolean standsOpen = ahead >= 0 && coming - gone < told.door(SHUTS);
             int opening = standsOpen ? 0 : told.secondsToOpen(one);
             boolean hurries = held && told.yardsHeldFor(one) > told.of(one, PACE);

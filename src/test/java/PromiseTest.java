@@ -180,6 +180,9 @@ public final class PromiseTest {
         }
         DoorIsHeld x = new DoorIsHeld();
         check.due("kind 1 before kind 2", Check.tell(x, "d000;c"), -1006);
+        check.due("the first of two of kind 2", Check.tell(x, "d000;c70;"), -2000);
+        check.due("a full way", Check.tell(x, "d111;c11;"), 2);
+        check.due("nothing of the letters ahead is left", Check.tell(x, "d111"), -1004);
     }
 
     private void wayOutOfRange() {
@@ -204,6 +207,9 @@ public final class PromiseTest {
         check.due("two more", Check.tell(x, "wp1,1,1000;wp1,1,1000;"), 2);
         check.due("eight", x.count(0), 8);
         check.due("a ninth", Check.tell(x, "d111;wp1,1,1000;"), -2005);
+        check.due("doors and customs need no room", Check.tell(x, "d421;c15;d421;c15;"), 4);
+        DoorIsHeld y = Check.doorOf(KINDS);
+        check.due("room for two, whatever else is told", Check.tell(y, "d421;c15;wp1,1,1000;d421;wp1,1,1000;"), 5);
         check.due("no refusal", x.count(16), 0);
     }
 
@@ -487,9 +493,13 @@ public final class PromiseTest {
         x.custom(4);
         check.due("holds(), ALWAYS", x.holds(), 3);
         check.due("longest(), ALWAYS", x.longest(), 26);
+        DoorIsHeld other = Check.doorOf("c40;wp0,9,1000;wp0,1,1000;wo10,9,1000;");
+        check.due("holds() for the first by number", other.holds(), 1);
+        check.due("longest() of the second", other.longest(), 6);
         x.custom(0);
         check.due("holds(), NEVER", x.holds(), 0);
         check.due("longest(), NEVER", x.longest(), 0);
+        check.due("longest() of the first", Check.doorOf("c40;wp0,1,1000;wp0,9,1000;").longest(), 6);
     }
 
     private void away() {
@@ -778,6 +788,7 @@ public final class PromiseTest {
         judged(x, 3, 3, 1, 0, 1);
         judged(x, 4, 3, 1, 0, 2, 3);
         judged(x, 4, 3, 1, 0, 2, 0, 0, 0, 0);
+        judged(x, -9, 3, 1, 0, 2);
         judged(new DoorIsHeld(), 0, 0);
         judged(new DoorIsHeld(), -9);
     }
@@ -819,11 +830,29 @@ public final class PromiseTest {
         Check.tell(x, "wp1,1,1000;");
         check.due("on() once more", x.on(), 2);
         check.due("SHUTS behind it", x.count(1), 4);
+        fewerBehind();
         DoorIsHeld empty = new DoorIsHeld();
         empty.image();
         Check.tell(empty, TWO);
         check.due("on() from nobody", empty.on(), 0);
         check.due("nobody then", empty.away(), -9);
+    }
+
+    /** Those who are there no more leave nothing in what is asked of all. */
+    private void fewerBehind() {
+        DoorIsHeld x = Check.doorOf("c40;wp0,1,1009;");
+        x.image();
+        Check.tell(x, "wp0,9,1009;wp0,40,1009;");
+        check.due("holds() of three", x.holds(), 2);
+        check.due("loss(-1) of three", x.loss(-1), 72 + 279);
+        x.on();
+        check.due("holds() of one", x.holds(), 0);
+        check.due("longest() of one", x.longest(), 0);
+        check.due("loss(-1) of one", x.loss(-1), 18);
+        check.due("open() of one", x.open(), 6);
+        check.due("worse() of one", x.worse(), 0);
+        check.due("followed() of one", x.followed(), 0);
+        check.due("order(1) of one", x.order(1), -9);
     }
 
     private void count() {
