@@ -23,6 +23,10 @@ final class Check {
         due(what, so ? 1 : 0, 1);
     }
 
+    int asked() {
+        return right + wrong;
+    }
+
     boolean anyWrong() {
         return wrong > 0;
     }

@@ -1,7 +1,11 @@
 import java.util.Random;
 
-/** Runs of 512 calls drawn by seeds: each answer against the model's, and all counts after each call. */
+/** Runs of 512 calls drawn by seeds: each answer against the model's, and all counts towards the end of each run. */
 public final class ModelTest {
+    private static final int CALLS = 512;
+    private static final int COUNTS = 22;
+    /** So many calls of the object one drawn call may make. */
+    private static final int MOST_AT_ONCE = 4;
     private static final int[] EDGES = {Integer.MIN_VALUE, Integer.MIN_VALUE + 1, -9, -2, -1, 0, 1, 2, 7, 8, 9, 10,
         20, 21, 40, 41, 80, 255, 256, 1 << 28, 306783379, Integer.MAX_VALUE - 1, Integer.MAX_VALUE};
     private static final String[] OF_WALKER = {"there", "comes", "through", "opens", "stands", "by", "runs", "loss"};
@@ -9,6 +13,7 @@ public final class ModelTest {
     private final Check check = new Check("ModelTest");
     private Random random;
     private DoorIsHeld door;
+    private int begun;
     private Model model;
 
     public static void main(String[] args) {
@@ -24,17 +29,27 @@ public final class ModelTest {
         random = new Random(seed);
         door = new DoorIsHeld();
         model = new Model();
-        int calls = 0;
-        while (calls < 512) {
-            calls += random.nextInt(6) == 0 ? tellWay(512 - calls) : oneCall();
-            if (check.anyWrong()) {
-                System.out.println("in the run of seed " + seed + ", about call " + calls);
-                return;
+        begun = check.asked();
+        while (left() > COUNTS + MOST_AT_ONCE && !check.anyWrong()) {
+            if (random.nextInt(6) == 0) {
+                tellWay(left() - COUNTS - 1);
+            } else {
+                oneCall();
             }
         }
-        for (int what = -2; what < 20; what++) {
+        for (int what = -2; what < COUNTS - 2; what++) {
             check.due("count(" + what + ")", door.count(what), model.count(what));
         }
+        while (left() > 0 && !check.anyWrong()) {
+            ofWalker(OF_WALKER[random.nextInt(OF_WALKER.length)]);
+        }
+        if (check.anyWrong()) {
+            System.out.println("in the run of seed " + seed + ", about call " + (CALLS - left()));
+        }
+    }
+
+    private int left() {
+        return CALLS - (check.asked() - begun);
     }
 
     /** A number between 0 and most, now and then one outside or far away. */
@@ -78,7 +93,7 @@ public final class ModelTest {
         return n < 10 && random.nextBoolean() ? "0" + n : Integer.toString(n);
     }
 
-    private int tellWay(int most) {
+    private void tellWay(int most) {
         StringBuilder text = new StringBuilder();
         int statements = random.nextInt(8);
         for (int i = 0; i < statements; i++) {
@@ -87,13 +102,10 @@ public final class ModelTest {
         if (random.nextInt(4) == 0) {
             spoil(text);
         }
-        int calls = 0;
-        for (int i = 0; i < text.length() && calls < most - 1; i++) {
+        for (int i = 0; i < text.length() && i < most - 1; i++) {
             check.due("letter", door.letter(text.charAt(i)), model.letter(text.charAt(i)));
-            calls++;
         }
         check.due("way() of " + text, door.way(), model.way());
-        return calls + 1;
     }
 
     private void spoil(StringBuilder text) {
@@ -113,7 +125,7 @@ public final class ModelTest {
         }
     }
 
-    private int oneCall() {
+    private void oneCall() {
         int which = random.nextInt(30);
         if (which < 8) {
             ofWalker(OF_WALKER[which]);
@@ -124,7 +136,6 @@ public final class ModelTest {
         } else {
             behind(which);
         }
-        return 1;
     }
 
     private void ofWalker(String call) {
