@@ -326,6 +326,42 @@ final class Model {
         return world.reach(world.walkers.get(one), world.walkers.get(next), held == 1);
     }
 
+    /** Any call of the document's face by its name. */
+    int call(String name, int... n) {
+        return switch (name) {
+            case "letter" -> letter(n[0]);
+            case "way" -> way();
+            case "walker" -> walker(n[0], n[1]);
+            case "set" -> set(n[0], n[1]);
+            case "custom" -> custom(n[0]);
+            case "far" -> far(n[0], n[1], n[2]);
+            case "order" -> order(n[0]);
+            case "holds" -> world.holds();
+            case "longest" -> longest();
+            case "away" -> away();
+            case "open" -> world.open();
+            case "coals" -> world.open() * world.warmth;
+            case "byOther" -> byOther(n[0], n[1]);
+            case "bestFar" -> bestFar();
+            case "bestCustom" -> bestCustom();
+            case "bestShuts" -> bestShuts();
+            case "worse" -> worse();
+            case "followed" -> followed();
+            case "porter" -> lossBy(0, world.far);
+            case "alone" -> alone(n[0]);
+            case "film" -> film(n[0], n[1], n[2], n[3]);
+            case "told" -> told(n[0], n[1], n[2]);
+            case "fitting" -> fitting(n[0], n[1]);
+            case "seeds" -> seeds(n[0], n[1]);
+            case "row" -> row(n[0]);
+            case "judge" -> judge();
+            case "image" -> image();
+            case "on" -> on();
+            case "count" -> count(n[0]);
+            default -> ofWalker(name, n[0]);
+        };
+    }
+
     /** Promises 8 and 10 to 16. */
     int ofWalker(String call, int walker) {
         if (call.equals("loss") && walker == -1) {

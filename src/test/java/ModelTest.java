@@ -1,6 +1,12 @@
+import java.util.ArrayList;
+import java.util.Arrays;
+import java.util.List;
 import java.util.Random;
 
-/** Runs of 512 calls drawn by seeds: each answer against the model's, and all counts towards the end of each run. */
+/**
+ * Runs of 512 calls drawn by seeds, each answer against the model's: runs of calls that mostly have a sense,
+ * with all counts towards the end of each; and runs of any call of the face with any numbers.
+ */
 public final class ModelTest {
     private static final int CALLS = 512;
     private static final int COUNTS = 22;
@@ -21,6 +27,7 @@ public final class ModelTest {
         int runs = args.length > 0 ? Integer.parseInt(args[0]) : 1500;
         for (int seed = 0; seed < runs && !test.check.anyWrong(); seed++) {
             test.run(seed);
+            test.anyRun(seed);
         }
         test.check.end();
     }
@@ -46,6 +53,38 @@ public final class ModelTest {
         if (check.anyWrong()) {
             System.out.println("in the run of seed " + seed + ", about call " + (CALLS - left()));
         }
+    }
+
+    /** Any call behind any other: a way now and then, lest nobody ever comes, and else whatever is drawn. */
+    private void anyRun(int seed) {
+        random = new Random(~seed);
+        door = new DoorIsHeld();
+        model = new Model();
+        begun = check.asked();
+        List<String> names = new ArrayList<>(Step.METHODS.keySet());
+        names.sort(null);
+        while (left() > 0 && !check.anyWrong()) {
+            if (left() > 82 && random.nextInt(20) == 0) {
+                tellWay(81);
+            } else {
+                String name = names.get(random.nextInt(names.size()));
+                int[] numbers = anyNumbers(Step.METHODS.get(name).getParameterCount());
+                check.due(name + Arrays.toString(numbers), Step.call(door, name, numbers), model.call(name, numbers));
+            }
+        }
+        if (check.anyWrong()) {
+            System.out.println("in the run of any calls of seed " + seed + ", call " + (CALLS - left()));
+        }
+    }
+
+    private int[] anyNumbers(int many) {
+        int[] numbers = new int[many];
+        for (int i = 0; i < many; i++) {
+            int sort = random.nextInt(24);
+            numbers[i] = sort == 0 ? EDGES[random.nextInt(EDGES.length)]
+                : sort == 1 ? random.nextInt() : sort == 2 ? random.nextInt(300) - 20 : random.nextInt(sort < 15 ? 3 : 9);
+        }
+        return numbers;
     }
 
     private int left() {
